@@ -115,6 +115,17 @@ public final class PromiseTest {
         x.sets(3, 2, 1);
         due("a net takes none", x.of(3, 4), 3);
 
+        for (int edge : new int[] {0, 79}) {
+            x = new FillCells();
+            fill(x, edge, 4);
+            fill(x, 40, 2);
+            x.sets(40, 3, 3);
+            x.sets(edge, 3, 3);
+            dueAll("the cell at the end loses", new int[] {x.of(edge, 4), x.of(40, 4)}, 2, 2);
+            x.sets(edge, 0, 8);
+            dueAll("the cell at the end makes lose", new int[] {x.of(edge, 4), x.of(40, 4)}, 1, 1);
+        }
+
         x = new FillCells();
         dueAll("wrong", new int[] {x.sets(-1, 0, 0), x.sets(80, 0, 0), x.sets(0, -1, 0), x.sets(0, 4, 0),
             x.sets(0, 0, -1), x.sets(0, 0, 10), x.sets(0, 1, -1), x.sets(0, 1, 2), x.sets(0, 2, -1), x.sets(0, 2, 4),
@@ -145,6 +156,7 @@ public final class PromiseTest {
                     together += shapes;
                 }
                 due("draw(" + seed + ", " + v + ")", got, together);
+                due("window", x.sum(0), x.of(0, 0) + x.of(1, 0) + x.of(2, 0) + x.of(10, 0) + x.of(11, 0) + x.of(12, 0));
                 dueAll("all else", new int[] {x.all(0), x.of(3, 1), x.of(4, 2), x.of(5, 3)}, 0, 1, 2, 3);
                 due("undo()", x.undo(), 5);
                 dueAll("undone", new int[] {x.all(0), x.all(1)}, 2, 0);
@@ -224,6 +236,7 @@ public final class PromiseTest {
         fill(x, 0, 2);
         due("two in a window", x.of(0, 4), 2);
         dueAll("a third", new int[] {x.of(0, 5), x.of(2, 5), x.of(12, 5), x.of(3, 5), x.of(20, 5)}, 0, 0, 0, 1, 1);
+        dueAll("one out and in again", new int[] {x.less(0), x.of(2, 5), x.of(0, 5), x.more(0), x.of(2, 5)}, 1, 1, 1, 2, 0);
         x.rules(3, 1);
         dueAll("thick without it", new int[] {x.windows(2), x.of(3, 5), x.of(79, 5), x.of(0, 5)}, 1, 1, 1, 0);
 
@@ -247,6 +260,9 @@ public final class PromiseTest {
         due("the far one has 9", x.of(0, 5), 0);
         x.sets(0, 3, 2);
         due("other twins", x.of(0, 5), 1);
+        x.sets(30, 3, 2);
+        x.sets(0, 0, 9);
+        due("cell 0 has 9", x.of(30, 5), 0);
     }
 
     private static void mayByNet() {
@@ -358,7 +374,7 @@ public final class PromiseTest {
         x.sets(79, 2, 3);
         x.sets(9, 2, 3);
         due("corners", x.burden(3), 6);
-        x.more(1);
+        x.more(1); // beside 0 (net 3) and 11 (net 1)
         dueAll("of two nets", new int[] {x.burden(1), x.burden(3)}, 8, 7);
         dueAll("wrong", new int[] {x.burden(0), x.burden(4), x.burden(-1), x.told(0)}, BAD, BAD, BAD, 3);
     }
@@ -463,6 +479,13 @@ public final class PromiseTest {
             x.sets(79, 3, 2);
             due("a twin of one in a thin window, rule " + rule, x.next(), rule == 1 || rule == 2 ? 79 : 30);
             dueAll("step", new int[] {x.steps(5), x.of(30, 4), x.of(79, 4), x.next()}, 1, 1, 1, NONE);
+            x.sets(0, 0, 0);
+            x.sets(0, 3, 1);
+            x.sets(30, 3, 1);
+            x.sets(30, 0, 0);
+            due("cell 0 is the thin one", x.next(), 0);
+            x.sets(0, 1, 1);
+            due("cell 0 is shut", x.next(), NONE);
         }
     }
 
@@ -494,7 +517,7 @@ public final class PromiseTest {
         x = field(0, 1, 1, 10, 2, 1);
         fill(x, 3, 1);
         fill(x, 6, 1);
-        dueAll("from the last one back", new int[] {x.thins(), x.of(3, 4), x.of(6, 4)}, 1, 1, 0);
+        dueAll("from the last one back", new int[] {x.thins(), x.of(3, 4), x.of(6, 4), x.told(9)}, 1, 1, 0, 3);
 
         x = field(0, 1, 1, 1, 2, 2);
         x.sets(20, 3, 1);
@@ -591,6 +614,16 @@ public final class PromiseTest {
         dueAll("no more", new int[] {x.undo(), x.undo(), x.told(1), x.told(9)}, NO, NO, 2, 0);
         due("change", x.more(0), 1);
         due("undo()", x.undo(), 0);
+        x = new FillCells();
+        for (int i = 1; i <= 9; i++) {
+            x.sets(i, 0, i);
+        }
+        dueAll("none done with 8 kept", new int[] {x.steps(9), x.thins(), x.sets(0, 0, 10), x.less(0), x.told(9)},
+            0, 0, BAD, NO, 8);
+        for (int i = 9; i >= 2; i--) {
+            dueAll("undone in order", new int[] {x.undo(), x.of(i, 0), x.of(i - 1, 0)}, i - 2, 0, i - 1);
+        }
+
         x = new FillCells();
         x.sets(11, 2, 1);
         x.more(1);
