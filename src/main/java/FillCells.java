@@ -205,7 +205,13 @@ public final class FillCells {
         if (!isIn(what, 0, 2)) {
             return refuse(BAD);
         }
-        filling.tryRules();
+        filling.markFill();
+        for (int rule = 0; rule < RULES; rule++) {
+            filling.stepOn(rule, TRIAL_STEPS);
+            filling.thinOut();
+            filling.rate(rule);
+            filling.layBack();
+        }
         switch (what) {
             case 0: return filling.bestRule;
             case 1: return filling.bestThin;
@@ -880,19 +886,20 @@ public final class FillCells {
             return ahead - total(field.fill);
         }
 
-        /** Tries each rule on the field itself, and lays its fill back each time. */
-        void tryRules() {
+        /** Rules are tried on the field itself, so its fill is marked ahead and laid back after each. */
+        void markFill() {
             System.arraycopy(field.fill, 0, fillAhead, 0, CELLS);
-            for (int rule = 0; rule < RULES; rule++) {
-                stepOn(rule, TRIAL_STEPS);
-                thinOut();
-                rate(rule, windows.countThin(), total(field.fill));
-                System.arraycopy(fillAhead, 0, field.fill, 0, CELLS);
-                measure();
-            }
         }
 
-        private void rate(int rule, int thin, int fill) {
+        void layBack() {
+            System.arraycopy(fillAhead, 0, field.fill, 0, CELLS);
+            measure();
+        }
+
+        /** Rules are rated from 0 on, so of like ones the least stays the best. */
+        void rate(int rule) {
+            int thin = windows.countThin();
+            int fill = total(field.fill);
             if (rule == 0 || thin < bestThin || thin == bestThin && fill < bestFill) {
                 bestRule = rule;
                 bestThin = thin;

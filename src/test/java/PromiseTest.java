@@ -1,56 +1,7 @@
 import java.math.BigInteger;
 
 /** Each promise of the document by itself: ordinary inputs, the edges it names, wrong inputs; worked out by hand. */
-public final class PromiseTest {
-    private static final int NONE = FillCells.NONE, BAD = FillCells.BAD, NO = FillCells.NO, FULL = FillCells.FULL;
-    private static int wrong = 0;
-    private static String part = "";
-
-    private static void due(String what, long got, long want) {
-        if (got != want) {
-            wrong++;
-            System.out.println(part + ": " + what + " answered " + got + ", due is " + want);
-        }
-    }
-
-    /** The answers of one call after another, as they are due. */
-    private static void dueAll(String what, int[] got, int... want) {
-        due(what + " (how many)", got.length, want.length);
-        for (int i = 0; i < Math.min(got.length, want.length); i++) {
-            due(what + " [" + i + "]", got[i], want[i]);
-        }
-    }
-
-    private static FillCells field(int... whatAndValue) {
-        FillCells x = new FillCells();
-        for (int i = 0; i < whatAndValue.length; i += 2) {
-            x.rules(whatAndValue[i], whatAndValue[i + 1]);
-        }
-        return x;
-    }
-
-    private static void fill(FillCells x, int cell, int times) {
-        for (int i = 0; i < times; i++) {
-            x.more(cell);
-        }
-    }
-
-    private static int reads(FillCells x, String text) {
-        x.clear();
-        for (char c : text.toCharArray()) {
-            x.type(c);
-        }
-        return x.reads();
-    }
-
-    private static int[] cellsOf(FillCells x) {
-        int[] all = new int[400];
-        for (int i = 0; i < 400; i++) {
-            all[i] = x.of(i / 5, i % 5);
-        }
-        return all;
-    }
-
+public final class PromiseTest extends Due {
     private static void newObject() {
         FillCells x = new FillCells();
         int[] told = {0, 0, 0, 0, 2, 3, 0, 720, 0, 0};
@@ -746,15 +697,6 @@ public final class PromiseTest {
         due("digest() with thick ones", x.digest() == h ? 1 : 0, 0);
     }
 
-    private interface Part {
-        void go();
-    }
-
-    private static void go(String name, Part p) {
-        part = name;
-        p.go();
-    }
-
     public static void main(String[] args) {
         go("promise 1", PromiseTest::newObject);
         go("promise 2", PromiseTest::sets);
@@ -786,9 +728,6 @@ public final class PromiseTest {
         go("promise 24", PromiseTest::readsRows);
         go("promise 25", PromiseTest::told);
         go("promise 26", PromiseTest::digest);
-        System.out.println(wrong == 0 ? "PromiseTest: all answers are as due" : "PromiseTest: " + wrong + " are not as due");
-        if (wrong != 0) {
-            System.exit(1);
-        }
+        end("PromiseTest");
     }
 }
