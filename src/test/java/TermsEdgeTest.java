@@ -330,6 +330,8 @@ public final class TermsEdgeTest extends Due {
         dueAll("4 and 1", got(x.of(12, 5), x.more(12)), 1, 1);
         dueAll("5 and 1", got(x.of(12, 5), x.of(0, 5), x.of(1, 5)), 0, 0, 0);
         dueAll("cells of other windows alone", got(x.of(3, 5), x.of(20, 5)), 1, 1);
+        x.rules(3, 5);
+        dueAll("less, more, less", got(x.less(12), x.of(0, 5), x.more(0), x.of(12, 5), x.less(0), x.of(12, 5)), 0, 1, 1, 0, 0, 1);
         FillCells y = field(3, 5);
         reads(y, "0 3;");
         twins(y, 2, 2, 11);
@@ -377,6 +379,10 @@ public final class TermsEdgeTest extends Due {
         reads(x, "0 9;");
         dueAll("a thick window elsewhere", got(x.windows(2), x.of(3, 5), x.of(20, 5), x.of(79, 5)), 1, 1, 1, 1);
         due("more(3)", x.more(3), 1);
+        twins(x, 1, 40, 79);
+        dueAll("of twins", got(x.of(40, 5), x.more(79), x.of(40, 5)), 1, 1, 0);
+        twins(x, 1, 12);
+        due("one of the twins in it", x.of(79, 5), 0);
         FillCells y = new FillCells();
         net(y, 1, 11);
         fill(y, 1, 2);
@@ -416,6 +422,9 @@ public final class TermsEdgeTest extends Due {
             due("of the family one in a thin window", x.next(), rule == 1 || rule == 2 ? 50 : 30);
             x.sets(70, 1, 1);
             due("the family may not", x.next(), NONE);
+            x.sets(0, 0, 0);
+            twins(x, 2, 0, 20);
+            due("of the family the first one is in it", x.next(), 0);
         }
     }
 
@@ -525,9 +534,10 @@ public final class TermsEdgeTest extends Due {
 
     private static void aStep() {
         says("A STEP: the first one by THE RULE and its FAMILY get 1 more FILL.");
-        for (int rule = 0; rule <= 4; rule++) {
+        for (int i = 0; i < 15; i++) {
+            int rule = i % 5, group = 1 + i / 5;
             FillCells x = field(0, 8, 1, 10, 2, 3, 7, rule);
-            twins(x, 1, 0, 40, 79);
+            twins(x, group, 0, 40, 79);
             dueAll("a family of three", got(x.next(), x.steps(60), x.all(0)), 0, 1, 3);
             fillsOf("each 1", x, new int[] {0, 40, 79, 1}, 1, 1, 1, 0);
             twins(x, 0, 0);
@@ -761,6 +771,8 @@ public final class TermsEdgeTest extends Due {
         x.sets(79, 1, 1);
         net(x, 3, 9);
         twins(x, 2, 70, 1);
+        twins(x, 1, 2);
+        twins(x, 3, 3);
         x.more(1);
         int[] ahead = cellsOf(x);
         x.rules(0, 5);
@@ -772,9 +784,10 @@ public final class TermsEdgeTest extends Due {
         reads(x, "0 5;7 5........5;");
         net(x, 1, 9);
         twins(x, 3, 70);
+        twins(x, 0, 2);
         x.empties();
         x.draw(1, 9);
-        dueAll("undo", got(x.undo(), x.undo(), x.undo(), x.undo(), x.undo()), 7, 6, 5, 4, 3);
+        dueAll("undo", got(x.undo(), x.undo(), x.undo(), x.undo(), x.undo(), x.undo()), 7, 6, 5, 4, 3, 2);
         dueAll("cells", cellsOf(x), ahead);
         dueAll("what is not told of cells stays", got(x.told(3), x.told(4), x.told(5), x.told(6), x.told(7), x.told(8),
             x.rules(4, 0)), 17, 5, 6, 7, 8, 1, 9);
